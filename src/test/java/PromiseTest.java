@@ -409,9 +409,15 @@ public final class PromiseTest {
         }
         String[] no = {"2021-02-29", "1900-02-29", "2100-02-29", "1599-12-31", "3000-01-01", "2020-00-10",
             "2020-13-01", "2020-01-00", "2020-04-31", "2020-1-01", "2020/01-01", "2020-01-011", "020-01-01",
-            "2020-a1-01"};
+            "2020-a1-01", "2020-0:-01", "202/-01-01", "2020-01-3/", "2020-02-30"};
         for (String day : no) {
             due(day + " is none", reader(day + "\n").costOf(0, 29, 0), NONE);
+        }
+        int[] lengths = {31, 28, 31, 30, 31, 30, 31, 31, 30, 31, 30, 31};
+        for (int month = 1; month <= 12; month++) {
+            String ahead = "2021-" + (month < 10 ? "0" : "") + month + "-";
+            due("last of month " + month, reader(ahead + lengths[month - 1] + "\n").costOf(0, 29, 0), 36);
+            due("behind month " + month, reader(ahead + (lengths[month - 1] + 1) + "\n").costOf(0, 29, 0), NONE);
         }
         String[] yes = {"2020-02-29", "2000-02-29", "1600-02-29", "1600-01-01", "2999-12-31", "2021-02-28"};
         for (String day : yes) {
