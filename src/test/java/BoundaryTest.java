@@ -522,6 +522,8 @@ public final class BoundaryTest {
         dueDays("9999", "01", "01", false);
         dueDays("999", "01", "01", false);
         dueDays("02020", "01", "01", false);
+        dueDays("20200", "01", "01", false);
+        dueDays("2020", "01", "011", false);
         dueDays("2020", "1", "01", false);
         dueDays("2020", "01", "1", false);
         dueDays("2020", "001", "01", false);
